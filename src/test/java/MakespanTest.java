@@ -1,0 +1,57 @@
+/** Promise 10. */
+public final class MakespanTest {
+    private static final Check check = new Check();
+
+    public static void main(String[] args) {
+        withoutPlan();
+        equalsThePlansAnswer();
+        lastPlacedIsNotAlwaysTheLatest();
+        check.end();
+    }
+
+    private static void withoutPlan() {
+        HeftPlanner x = new HeftPlanner(2, 6);
+        check.due("makespan(), new", x.makespan(), HeftPlanner.ERR_NOPLAN);
+        x.plan();
+        check.due("makespan(), refused plan", x.makespan(), HeftPlanner.ERR_NOPLAN);
+        x = Sample.running();
+        check.due("makespan()", x.makespan(), 41);
+        x.addEdge(3, 4, 0);
+        check.due("makespan() after addEdge", x.makespan(), HeftPlanner.ERR_NOPLAN);
+        x.plan();
+        x.addTask(1, 1, 0, 0);
+        check.due("makespan() after addTask", x.makespan(), HeftPlanner.ERR_NOPLAN);
+    }
+
+    private static void equalsThePlansAnswer() {
+        HeftPlanner x = new HeftPlanner(2, 16);
+        for (int t = 0; t < 16; t++) {
+            x.addTask(3 + t, 40 - 2 * t, 0, 0);
+            int answer = x.plan();
+            x.setDelay(t, 50);
+            x.run(100);
+            x.run(10);
+            x.addTask(0, 0, 0, 0);
+            check.due("makespan()", x.makespan(), answer);
+            int greatest = 0;
+            for (int u = 0; u <= t; u++) {
+                greatest = Math.max(greatest, x.plannedFinish(u));
+            }
+            check.due("makespan(), greatest finish", x.makespan(), greatest);
+        }
+    }
+
+    private static void lastPlacedIsNotAlwaysTheLatest() {
+        HeftPlanner x = new HeftPlanner(2, 3);
+        x.addTask(50, 50, 0, 0);
+        x.addTask(10, 10, 0, 0);
+        x.addTask(1, 1, 0, 0);
+        check.due("plan()", x.plan(), 50);
+        check.due("makespan()", x.makespan(), 50);
+        x = new HeftPlanner(1, 2);
+        x.addTask(100, 0, 0, 0);
+        x.addTask(100, 0, 0, 0);
+        check.due("plan()", x.plan(), 200);
+        check.due("makespan()", x.makespan(), 200);
+    }
+}
