@@ -6,6 +6,7 @@ public final class MakespanTest {
         withoutPlan();
         equalsThePlansAnswer();
         lastPlacedIsNotAlwaysTheLatest();
+        newPlanMayBeShorter();
         check.end();
     }
 
@@ -53,5 +54,18 @@ public final class MakespanTest {
         x.addTask(100, 0, 0, 0);
         check.due("plan()", x.plan(), 200);
         check.due("makespan()", x.makespan(), 200);
+    }
+
+    // The edge lifts task 1 above task 0, so that it takes processor 0 first.
+    private static void newPlanMayBeShorter() {
+        HeftPlanner x = new HeftPlanner(2, 3);
+        x.addTask(50, 51, 0, 0);
+        x.addTask(10, 90, 0, 0);
+        x.addTask(1, 1, 0, 0);
+        check.due("plan()", x.plan(), 60);
+        check.due("makespan()", x.makespan(), 60);
+        x.addEdge(1, 2, 0);
+        check.due("plan() with the edge", x.plan(), 51);
+        check.due("makespan() with the edge", x.makespan(), 51);
     }
 }
