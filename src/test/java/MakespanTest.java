@@ -4,17 +4,24 @@ public final class MakespanTest {
 
     public static void main(String[] args) {
         withoutPlan();
+        queryChangesNothing();
+        leastAndGreatest();
         equalsThePlansAnswer();
         lastPlacedIsNotAlwaysTheLatest();
         newPlanMayBeShorter();
         check.end();
     }
 
+    // "If not planned it answers `ERR_NOPLAN`. Nothing changes."
     private static void withoutPlan() {
+        for (State state : State.values()) {
+            if (!state.planned) {
+                Refusal.due(check, "makespan()", state, HeftPlanner::makespan, HeftPlanner.ERR_NOPLAN);
+            }
+        }
         HeftPlanner x = new HeftPlanner(2, 6);
-        check.due("makespan(), new", x.makespan(), HeftPlanner.ERR_NOPLAN);
         x.plan();
-        check.due("makespan(), refused plan", x.makespan(), HeftPlanner.ERR_NOPLAN);
+        check.due("makespan() after a refused plan", x.makespan(), HeftPlanner.ERR_NOPLAN);
         x = Sample.running();
         check.due("makespan()", x.makespan(), 41);
         x.addEdge(3, 4, 0);
@@ -24,6 +31,26 @@ public final class MakespanTest {
         check.due("makespan() after addTask", x.makespan(), HeftPlanner.ERR_NOPLAN);
     }
 
+    private static void queryChangesNothing() {
+        for (State state : State.values()) {
+            HeftPlanner x = state.start.get();
+            int first = x.makespan();
+            check.due("makespan() again, " + state, x.makespan(), first);
+            Refusal.unchanged(check, "makespan(), " + state, x, state.start);
+        }
+    }
+
+    private static void leastAndGreatest() {
+        HeftPlanner least = Sample.equalTasks(4, 1, 1);
+        least.plan();
+        check.due("makespan(), the least", least.makespan(), 1);
+        HeftPlanner greatest = Sample.chain(4, 16, 100, 100);
+        greatest.plan();
+        check.due("makespan(), the greatest", greatest.makespan(), 1600);
+    }
+
+    // "the greatest F(t) over all tasks; it equals the value the last successful plan() answered": through delays,
+    // runs and refused calls
     private static void equalsThePlansAnswer() {
         HeftPlanner x = new HeftPlanner(2, 16);
         for (int t = 0; t < 16; t++) {

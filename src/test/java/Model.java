@@ -109,7 +109,7 @@ final class Model {
         return count;
     }
 
-    /** By the numbers of Sample.query. */
+    /** By the numbers of Query. */
     int query(int which, int index) {
         if (!planned) {
             return -6;
@@ -118,12 +118,12 @@ final class Model {
             return -1;
         }
         switch (which) {
-            case 0: return scaledRank(index);
-            case 1: return order.get(index);
-            case 2: return proc[index];
-            case 3: return start[index];
-            case 4: return finish[index];
-            case 5: return replayedStart(index) <= clock ? replayedStart(index) : -7;
+            case Query.RANK: return scaledRank(index);
+            case Query.ORDER_AT: return order.get(index);
+            case Query.PLANNED_PROC: return proc[index];
+            case Query.PLANNED_START: return start[index];
+            case Query.PLANNED_FINISH: return finish[index];
+            case Query.REPLAY_START: return replayedStart(index) <= clock ? replayedStart(index) : -7;
             default: return replayedFinish(index) <= clock ? replayedFinish(index) : -7;
         }
     }

@@ -3,12 +3,27 @@ public final class PlannedTimesTest {
     private static final Check check = new Check();
 
     public static void main(String[] args) {
-        Sample.checkRefusals(check, "plannedStart", 3);
-        Sample.checkRefusals(check, "plannedFinish", 4);
+        Query.checkConditions(check, Query.PLANNED_START);
+        Query.checkConditions(check, Query.PLANNED_FINISH);
+        leastAndGreatestTimes();
         timesOfTheGaps();
         finishIsStartAndCost();
         clockDoesNotMatter();
         check.end();
+    }
+
+    // "S(t) >= 0"
+    private static void leastAndGreatestTimes() {
+        HeftPlanner x = Sample.chain(1, 16, 100, 100);
+        x.plan();
+        for (int t = 0; t < 16; t++) {
+            check.due("plannedStart(" + t + ")", x.plannedStart(t), 100 * t);
+            check.due("plannedFinish(" + t + ")", x.plannedFinish(t), 100 * t + 100);
+        }
+        HeftPlanner least = Sample.equalTasks(1, 1, 1);
+        least.plan();
+        check.due("plannedStart(0) of the least", least.plannedStart(0), 0);
+        check.due("plannedFinish(0) of the least", least.plannedFinish(0), 1);
     }
 
     private static void timesOfTheGaps() {
@@ -22,6 +37,7 @@ public final class PlannedTimesTest {
         }
     }
 
+    // "F(t) = S(t) + w(t,proc(t))", without the delays
     private static void finishIsStartAndCost() {
         HeftPlanner x = new HeftPlanner(3, 12);
         for (int t = 0; t < 12; t++) {
@@ -37,11 +53,13 @@ public final class PlannedTimesTest {
     }
 
     private static void clockDoesNotMatter() {
-        HeftPlanner x = Sample.running();
-        check.due("plannedStart(3), delayed and run", x.plannedStart(3), 5);
-        check.due("plannedFinish(3), delayed and run", x.plannedFinish(3), 30);
-        x.setDelay(3, 7);
-        check.due("plannedStart(1), clock at 0", x.plannedStart(1), 30);
-        check.due("plannedFinish(1), clock at 0", x.plannedFinish(1), 40);
+        for (int time : new int[] {0, 4, 5, 29, 30, 100000}) {
+            HeftPlanner x = Sample.ran(Sample.delayedGaps(), time);
+            check.due("plannedStart(3) at " + time, x.plannedStart(3), 5);
+            check.due("plannedFinish(3) at " + time, x.plannedFinish(3), 30);
+            x.setDelay(3, 7);
+            check.due("plannedStart(1), clock set back", x.plannedStart(1), 30);
+            check.due("plannedFinish(1), clock set back", x.plannedFinish(1), 40);
+        }
     }
 }

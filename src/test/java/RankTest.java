@@ -3,11 +3,48 @@ public final class RankTest {
     private static final Check check = new Check();
 
     public static void main(String[] args) {
-        Sample.checkRefusals(check, "rank", 0);
+        Query.checkConditions(check, Query.RANK);
+        noEdgesCountAsZero();
+        leastAndGreatestRanks();
+        freeEdgesCarryTheRankAlone();
         ranksOfTheGaps();
         greatestPathCounts();
+        incomingEdgesDoNotCount();
         chainsInEitherOrder();
         check.end();
+    }
+
+    // "the max over no edges is 0": the rank is W(t) alone
+    private static void noEdgesCountAsZero() {
+        for (int processors = 1; processors <= 4; processors++) {
+            HeftPlanner x = new HeftPlanner(processors, 3);
+            x.addTask(1, 1, 1, 1);
+            x.addTask(100, 100, 100, 100);
+            x.addTask(1, 10, 20, 30);
+            x.plan();
+            check.due("rank(0) on " + processors, x.rank(0), processors);
+            check.due("rank(1) on " + processors, x.rank(1), 100 * processors);
+            check.due("rank(2) on " + processors, x.rank(2), new int[] {1, 11, 31, 61}[processors - 1]);
+        }
+    }
+
+    // "no value computed here exceeds some millions"
+    private static void leastAndGreatestRanks() {
+        HeftPlanner least = Sample.equalTasks(1, 1, 1);
+        least.plan();
+        check.due("rank(0), the least", least.rank(0), 1);
+        HeftPlanner greatest = Sample.chain(4, 16, 100, 100);
+        greatest.plan();
+        check.due("rank(0), the greatest", greatest.rank(0), 16 * 400 + 15 * 400);
+        check.due("rank(15)", greatest.rank(15), 400);
+    }
+
+    private static void freeEdgesCarryTheRankAlone() {
+        HeftPlanner x = Sample.chain(3, 16, 1, 0);
+        x.plan();
+        for (int t = 0; t < 16; t++) {
+            check.due("rank(" + t + ")", x.rank(t), 3 * (16 - t));
+        }
     }
 
     private static void ranksOfTheGaps() {
@@ -37,11 +74,22 @@ public final class RankTest {
         check.due("rank(0)", x.rank(0), 6 + 27 + 16);
     }
 
+    private static void incomingEdgesDoNotCount() {
+        HeftPlanner x = Sample.equalTasks(2, 16, 10);
+        for (int t = 0; t < 15; t++) {
+            x.addEdge(t, 15, 100);
+        }
+        x.plan();
+        check.due("rank(15)", x.rank(15), 20);
+        for (int t = 0; t < 15; t++) {
+            check.due("rank(" + t + ")", x.rank(t), 20 + 200 + 20);
+        }
+    }
+
     private static void chainsInEitherOrder() {
-        HeftPlanner forward = Sample.equalTasks(4, 16, 100);
+        HeftPlanner forward = Sample.chain(4, 16, 100, 100);
         HeftPlanner backward = Sample.equalTasks(4, 16, 100);
         for (int t = 0; t < 15; t++) {
-            forward.addEdge(t, t + 1, 100);
             backward.addEdge(14 - t, 15 - t, 100);
         }
         forward.plan();

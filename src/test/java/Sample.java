@@ -1,4 +1,4 @@
-/** Objects that several tests start from, and everything that an object shows of itself. */
+/** Objects that several tests start from, and what an object shows of itself. */
 final class Sample {
     /**
      * Two processors, five tasks, one edge. Placement order 0 1 2 3 4; by hand:
@@ -17,17 +17,26 @@ final class Sample {
         return x;
     }
 
-    /** The gaps with a plan, two delays and a clock at which the whole replay is visible. */
-    static HeftPlanner running() {
+    /** The gaps with two delays: in the replay, tasks 0 2 3 1 4 finish at 10 15 40 50 151. */
+    static HeftPlanner delayedGaps() {
         HeftPlanner x = gaps();
         x.setDelay(2, 10);
         x.setDelay(4, 100);
-        x.plan();
-        x.run(5000);
         return x;
     }
 
-    /** Equal tasks on so many processors. */
+    static HeftPlanner ran(HeftPlanner x, int time) {
+        x.plan();
+        x.run(time);
+        return x;
+    }
+
+    /** The delayed gaps at a clock at which the whole replay is visible. */
+    static HeftPlanner running() {
+        return ran(delayedGaps(), 5000);
+    }
+
+    /** Equal tasks on so many processors, with no room for one more. */
     static HeftPlanner equalTasks(int processors, int count, int cost) {
         HeftPlanner x = new HeftPlanner(processors, count);
         for (int t = 0; t < count; t++) {
@@ -36,66 +45,64 @@ final class Sample {
         return x;
     }
 
-    /** Sixteen tasks and edges from each to the next ones, until there are 32. */
-    static HeftPlanner fullOfEdges() {
-        HeftPlanner x = equalTasks(2, 16, 3);
-        for (int gap = 1; gap <= 3; gap++) {
-            for (int u = 0; u + gap < 16 && x.edgeCount() < 32; u++) {
+    /** Tasks 0, 1, 2 and so on, each with an edge to the next one. */
+    static HeftPlanner chain(int processors, int count, int cost, int comm) {
+        HeftPlanner x = equalTasks(processors, count, cost);
+        for (int t = 0; t + 1 < count; t++) {
+            x.addEdge(t, t + 1, comm);
+        }
+        return x;
+    }
+
+    /** So many tasks, nine at least, and edges from each to the next ones, until there are 32. */
+    static HeftPlanner fullOfEdges(int count) {
+        HeftPlanner x = new HeftPlanner(2, 16);
+        for (int t = 0; t < count; t++) {
+            x.addTask(3, 3, 0, 0);
+        }
+        for (int gap = 1; gap < count; gap++) {
+            for (int u = 0; u + gap < count && x.edgeCount() < 32; u++) {
                 x.addEdge(u, u + gap, gap);
             }
         }
         return x;
     }
 
+    /** Everything that the object shows at once. */
     static String shown(HeftPlanner x) {
         StringBuilder all = new StringBuilder();
         all.append("n=").append(x.taskCount()).append(" m=").append(x.edgeCount());
         all.append(" clock=").append(x.clock()).append(" makespan=").append(x.makespan());
         for (int t = 0; t < x.taskCount(); t++) {
-            all.append(" [").append(x.rank(t)).append(' ').append(x.orderAt(t)).append(' ').append(x.plannedProc(t));
-            all.append(' ').append(x.plannedStart(t)).append(' ').append(x.plannedFinish(t));
-            all.append(' ').append(x.replayStart(t)).append(' ').append(x.replayFinish(t)).append(']');
+            all.append(" [");
+            for (int which = 0; which < Query.NAMES.length; which++) {
+                all.append(which == 0 ? "" : " ").append(Query.ask(x, which, t));
+            }
+            all.append(']');
         }
         return all.toString();
     }
 
-    /** The five queries of the plan and two of the replay, by number, for tests that ask all of them the same. */
-    static int query(HeftPlanner x, int which, int index) {
-        switch (which) {
-            case 0: return x.rank(index);
-            case 1: return x.orderAt(index);
-            case 2: return x.plannedProc(index);
-            case 3: return x.plannedStart(index);
-            case 4: return x.plannedFinish(index);
-            case 5: return x.replayStart(index);
-            default: return x.replayFinish(index);
+    /** What the object answers to a fixed tour of calls, which brings out the costs, edges, delays and room it has. */
+    static String tour(HeftPlanner x) {
+        StringBuilder all = new StringBuilder();
+        all.append("run ").append(x.run(100000)).append(' ').append(shown(x));
+        planAndRun(x, all);
+        for (int u = 0; u < x.taskCount(); u++) {
+            for (int v = 0; v < x.taskCount(); v++) {
+                all.append(' ').append(x.addEdge(u, v, 1));
+            }
         }
+        planAndRun(x, all);
+        for (int i = 0; i <= 16; i++) {
+            all.append(' ').append(x.addTask(2, 2, 2, 2));
+        }
+        planAndRun(x, all);
+        return all.toString();
     }
 
-    /** What every query by index must refuse, and in which order. */
-    static void checkRefusals(Check check, String name, int which) {
-        int[] outside = {-1, -2, Integer.MIN_VALUE, 5, 6, 16, 17, 64, Integer.MAX_VALUE};
-        HeftPlanner unplanned = gaps();
-        HeftPlanner empty = new HeftPlanner(2, 3);
-        HeftPlanner running = running();
-        String before = shown(running);
-        for (int index : outside) {
-            check.due(name + "(" + index + ") without a plan", query(unplanned, which, index), HeftPlanner.ERR_NOPLAN);
-            check.due(name + "(" + index + ") without tasks", query(empty, which, index), HeftPlanner.ERR_NOPLAN);
-            check.due(name + "(" + index + ")", query(running, which, index), HeftPlanner.ERR_ARG);
-        }
-        for (int index = 0; index < 5; index++) {
-            check.due(name + "(" + index + ") without a plan", query(unplanned, which, index), HeftPlanner.ERR_NOPLAN);
-            check.holds(name + "(" + index + ") is answered", query(running, which, index) >= 0);
-        }
-        check.same(name + " changes nothing", shown(running), before);
-        running.addTask(1, 1, 1, 1);
-        check.due(name + "(0) after addTask", query(running, which, 0), HeftPlanner.ERR_NOPLAN);
-        running.plan();
-        running.run(5000);
-        check.holds(name + "(5) is answered with six tasks", query(running, which, 5) >= 0);
-        check.due(name + "(6) with six tasks", query(running, which, 6), HeftPlanner.ERR_ARG);
-        running.addEdge(3, 4, 1);
-        check.due(name + "(0) after addEdge", query(running, which, 0), HeftPlanner.ERR_NOPLAN);
+    private static void planAndRun(HeftPlanner x, StringBuilder all) {
+        all.append("\n  plan ").append(x.plan()).append(' ').append(shown(x));
+        all.append("\n  run ").append(x.run(100000)).append(' ').append(shown(x)).append('\n');
     }
 }
