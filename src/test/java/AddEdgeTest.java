@@ -91,6 +91,13 @@ public final class AddEdgeTest {
                 }
             }
         }
+        for (int old : Bounds.taken(0, 100)) {
+            for (int c : Bounds.taken(0, 100)) {
+                String call = "addEdge(1, 2, " + c + ") beside one of " + old;
+                Refusal.due(check, call, () -> Sample.ran(Sample.chain(2, 3, 5, old), 7), x -> x.addEdge(1, 2, c),
+                    HeftPlanner.ERR_DUP);
+            }
+        }
         HeftPlanner x = Sample.fullOfEdges(9);
         for (int u = 0; u < 8; u++) {
             check.due("addEdge(" + u + ", next) again", x.addEdge(u, u + 1, 50), HeftPlanner.ERR_DUP);

@@ -20,7 +20,9 @@ public final class AddTaskTest {
     }
 
     private static int addWith(HeftPlanner x, int place, int value) {
-        return x.addTask(place == 0 ? value : 7, place == 1 ? value : 7, place == 2 ? value : 7, place == 3 ? value : 7);
+        int[] c = {7, 7, 7, 7};
+        c[place] = value;
+        return x.addTask(c[0], c[1], c[2], c[3]);
     }
 
     // "Otherwise the task gets id n, [...] n grows by 1 [...]. The answer is the new id."

@@ -29,10 +29,9 @@ public final class ClockTest {
     // "Never refused; nothing changes."
     private static void queryChangesNothing() {
         for (State state : State.values()) {
-            HeftPlanner x = state.start.get();
-            int first = x.clock();
-            check.due("clock() again, " + state, x.clock(), first);
-            Refusal.unchanged(check, "clock(), " + state, x, state.start);
+            int due = state.start.get().clock();
+            String call = "clock(), " + state;
+            Refusal.unchanged(check, call, state.start, x -> check.due(call, x.clock(), due));
         }
     }
 

@@ -1,8 +1,8 @@
 /** Promise 1. */
 public final class ConstructionTest {
     private static final Check check = new Check();
-    private static final int[] GIVEN = {Integer.MIN_VALUE, Integer.MIN_VALUE + 1, -65535, -255, -2, -1, 0, 1, 2, 3, 4, 5,
-        6, 15, 16, 17, 18, 258, 65538, Integer.MAX_VALUE - 1, Integer.MAX_VALUE};
+    private static final int[] GIVEN = {Integer.MIN_VALUE, Integer.MIN_VALUE + 1, -65535, -255, -2, -1, 0, 1, 2, 3, 4,
+        5, 6, 15, 16, 17, 18, 258, 65538, Integer.MAX_VALUE - 1, Integer.MAX_VALUE};
     private static final int[] PROCESSORS = {1, 1, 1, 1, 1, 1, 1, 1, 2, 3, 4, 4, 4, 4, 4, 4, 4, 4, 4, 4, 4};
     private static final int[] CAPACITY = {1, 1, 1, 1, 1, 1, 1, 1, 2, 3, 4, 5, 6, 15, 16, 16, 16, 16, 16, 16, 16};
     private static final int[] RANK_BY_PROCESSORS = {0, 1, 11, 31, 61};

@@ -33,10 +33,9 @@ public final class MakespanTest {
 
     private static void queryChangesNothing() {
         for (State state : State.values()) {
-            HeftPlanner x = state.start.get();
-            int first = x.makespan();
-            check.due("makespan() again, " + state, x.makespan(), first);
-            Refusal.unchanged(check, "makespan(), " + state, x, state.start);
+            int due = state.start.get().makespan();
+            String call = "makespan(), " + state;
+            Refusal.unchanged(check, call, state.start, x -> check.due(call, x.makespan(), due));
         }
     }
 

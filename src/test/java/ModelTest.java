@@ -26,7 +26,8 @@ public final class ModelTest {
         }
     }
 
-    private static void playCall(String name, HeftPlanner x, Model model, int kind, int greatestCost, int greatestComm) {
+    private static void playCall(String name, HeftPlanner x, Model model, int kind, int greatestCost,
+            int greatestComm) {
         int n = model.costs.size();
         if (kind < 2) {
             int[] c = {cost(greatestCost), cost(greatestCost), cost(greatestCost), cost(greatestCost)};

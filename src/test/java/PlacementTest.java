@@ -184,29 +184,19 @@ public final class PlacementTest {
 
     // Task 1 is placed first and starts last, then come the ones before it, from the front and to the front.
     private static void startMovesPastTasksInAnyOrder() {
-        HeftPlanner x = new HeftPlanner(2, 6);
-        x.addTask(10, 100, 0, 0);
-        x.addTask(100, 10, 0, 0);
-        x.addTask(100, 9, 0, 0);
-        x.addTask(100, 8, 0, 0);
-        x.addTask(100, 2, 0, 0);
-        x.addTask(100, 1, 0, 0);
+        HeftPlanner x = new HeftPlanner(2, 7);
+        for (int[] c : new int[][] {{10, 100}, {100, 10}, {100, 9}, {100, 8}, {100, 2}, {100, 1}, {50, 1}}) {
+            x.addTask(c[0], c[1], 0, 0);
+        }
         x.addEdge(0, 1, 10);
         x.addEdge(0, 3, 1);
-        check.due("plan()", x.plan(), 30);
+        check.due("plan()", x.plan(), 31);
         place("passing", x, 1, 1, 20, 30);
         place("passing", x, 2, 1, 0, 9);
         place("passing", x, 3, 1, 11, 19);
         place("passing", x, 4, 1, 9, 11);
         place("passing", x, 5, 1, 19, 20);
-        HeftPlanner y = new HeftPlanner(2, 7);
-        for (int[] c : new int[][] {{10, 100}, {100, 10}, {100, 9}, {100, 8}, {100, 2}, {100, 1}, {50, 1}}) {
-            y.addTask(c[0], c[1], 0, 0);
-        }
-        y.addEdge(0, 1, 10);
-        y.addEdge(0, 3, 1);
-        check.due("plan()", y.plan(), 31);
-        place("no gap left", y, 6, 1, 30, 31);
+        place("no gap left", x, 6, 1, 30, 31);
     }
 
     // "overlaps no interval [S(x),F(x)) of a task x already placed on p"

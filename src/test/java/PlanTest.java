@@ -12,6 +12,7 @@ public final class PlanTest {
         planIsReplaced();
         for (int seed = 0; seed < GRAPHS; seed++) {
             Graph graph = new Graph(new FixedNumbers(seed));
+            answerIsTheMakespan(graph);
             edgesAreKept(graph);
             tasksDoNotOverlap(graph);
             replayMeetsThePlan(graph);
@@ -100,6 +101,17 @@ public final class PlanTest {
         check.due("plannedStart(0)", x.plannedStart(0), 0);
         check.due("plannedStart(1)", x.plannedStart(1), 10);
         check.due("orderAt(0)", x.orderAt(0), 0);
+    }
+
+    // "the answer is the makespan": "max over t of F(t)"
+    private static void answerIsTheMakespan(Graph graph) {
+        HeftPlanner x = graph.planner();
+        int answer = x.plan();
+        int greatest = 0;
+        for (int t = 0; t < graph.costs.length; t++) {
+            greatest = Math.max(greatest, x.plannedFinish(t));
+        }
+        check.due("plan()", answer, greatest);
     }
 
     // "for every admitted edge (u,v,c), S(v) >= F(u) + (proc(u)==proc(v) ? 0 : c)"

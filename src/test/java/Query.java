@@ -58,14 +58,18 @@ final class Query {
 
     // "Nothing changes."
     private static void insideIsAnswered(Check check, int which, State state) {
-        HeftPlanner x = state.start.get();
         for (int index = 0; index < state.tasks; index++) {
-            int answer = ask(x, which, index);
-            boolean hidden = which >= REPLAY_START && answer == HeftPlanner.NOT_YET;
-            check.holds(NAMES[which] + "(" + index + ") is answered, " + state, answer >= 0 || hidden);
-            check.due(NAMES[which] + "(" + index + ") again, " + state, ask(x, which, index), answer);
+            int t = index;
+            String call = NAMES[which] + "(" + t + "), " + state;
+            Refusal.unchanged(check, call, state.start, x -> answeredTwice(check, call, x, which, t));
         }
-        Refusal.unchanged(check, NAMES[which] + " of all, " + state, x, state.start);
+    }
+
+    private static void answeredTwice(Check check, String call, HeftPlanner x, int which, int index) {
+        int answer = ask(x, which, index);
+        boolean hidden = which >= REPLAY_START && answer == HeftPlanner.NOT_YET;
+        check.holds(call + " is answered", answer >= 0 || hidden);
+        check.due(call + " again", ask(x, which, index), answer);
     }
 
     private static void leastAndGreatestNumberOfTasks(Check check, int which) {

@@ -9,6 +9,7 @@ public final class RankTest {
         freeEdgesCarryTheRankAlone();
         ranksOfTheGaps();
         greatestPathCounts();
+        lastEdgeCounts();
         incomingEdgesDoNotCount();
         chainsInEitherOrder();
         check.end();
@@ -58,20 +59,37 @@ public final class RankTest {
 
     // The two paths differ by where their cost lies; the mean is scaled by P, the communication too.
     private static void greatestPathCounts() {
-        HeftPlanner x = new HeftPlanner(3, 4);
-        x.addTask(1, 2, 3, 0);
-        x.addTask(10, 10, 10, 0);
-        x.addTask(1, 1, 1, 0);
-        x.addTask(2, 2, 3, 0);
-        x.addEdge(0, 1, 0);
-        x.addEdge(0, 2, 9);
-        x.addEdge(1, 3, 1);
-        x.addEdge(2, 3, 2);
+        int[][] edges = {{0, 1, 0}, {0, 2, 9}, {1, 3, 1}, {2, 3, 2}};
+        for (int first = 0; first < 4; first++) {
+            HeftPlanner x = new HeftPlanner(3, 4);
+            x.addTask(1, 2, 3, 0);
+            x.addTask(10, 10, 10, 0);
+            x.addTask(1, 1, 1, 0);
+            x.addTask(2, 2, 3, 0);
+            for (int i = 0; i < 4; i++) {
+                int[] e = edges[(first + i) % 4];
+                x.addEdge(e[0], e[1], e[2]);
+            }
+            x.plan();
+            check.due("rank(3)", x.rank(3), 7);
+            check.due("rank(2)", x.rank(2), 3 + 6 + 7);
+            check.due("rank(1)", x.rank(1), 30 + 3 + 7);
+            check.due("rank(0)", x.rank(0), 6 + 27 + 16);
+        }
+    }
+
+    // Edge 31 is the only one that leads from task 0 to the end at once.
+    private static void lastEdgeCounts() {
+        HeftPlanner x = Sample.chain(2, 16, 3, 1);
+        for (int u = 0; u < 14; u++) {
+            x.addEdge(u, u + 2, 1);
+        }
+        x.addEdge(0, 3, 1);
+        x.addEdge(1, 4, 1);
+        check.due("addEdge(0, 15, 100)", x.addEdge(0, 15, 100), 31);
         x.plan();
-        check.due("rank(3)", x.rank(3), 7);
-        check.due("rank(2)", x.rank(2), 3 + 6 + 7);
-        check.due("rank(1)", x.rank(1), 30 + 3 + 7);
-        check.due("rank(0)", x.rank(0), 6 + 27 + 16);
+        check.due("rank(0)", x.rank(0), 6 + 200 + 6);
+        check.due("rank(1)", x.rank(1), 15 * 6 + 14 * 2);
     }
 
     private static void incomingEdgesDoNotCount() {

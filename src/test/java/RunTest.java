@@ -82,14 +82,15 @@ public final class RunTest {
     private static void sameTimeChangesNothing() {
         for (State state : State.values()) {
             if (state.planned) {
-                HeftPlanner x = state.start.get();
-                int count = x.run(x.clock());
-                check.holds("run at the clock is allowed, " + state, count >= 0);
-                check.due("run at the clock again, " + state, x.run(x.clock()), count);
-                Refusal.unchanged(check, "run at the clock, " + state, x, state.start);
+                HeftPlanner seen = state.start.get();
+                int clock = seen.clock();
+                int count = seen.run(clock);
+                String call = "run at the clock, " + state;
+                check.holds(call + " is allowed", count >= 0);
+                Refusal.unchanged(check, call, state.start, x -> check.due(call, x.run(clock), count));
             }
         }
-        check.due("run(12) at 12", State.MID_RUN.start.get().run(12), 1);
+        check.due("run(12) at 12", State.MID_RUN.start.get().run(12), 2);
         check.due("run(0) at 0", State.PLANNED.start.get().run(0), 0);
         check.due("run(100000) at 100000", State.LATEST_CLOCK.start.get().run(100000), 5);
     }
@@ -164,10 +165,10 @@ public final class RunTest {
         String before = Sample.shown(x);
         x.run(70000);
         check.same("after run(70000)", Sample.shown(x), before.replace("clock=5000", "clock=70000"));
-        HeftPlanner slow = Sample.ran(Sample.delayedGaps(), 0);
-        for (int time = 0; time <= 12; time++) {
+        HeftPlanner slow = State.PLANNED.start.get();
+        for (int time = 1; time <= 12; time++) {
             slow.run(time);
         }
-        Refusal.unchanged(check, "twelve runs by one", slow, State.MID_RUN.start);
+        check.same("the tour after twelve runs by one", Sample.tour(slow), Sample.tour(State.MID_RUN.start.get()));
     }
 }

@@ -60,9 +60,11 @@ final class Sample {
         for (int t = 0; t < count; t++) {
             x.addTask(3, 3, 0, 0);
         }
+        int edges = 0;
         for (int gap = 1; gap < count; gap++) {
-            for (int u = 0; u + gap < count && x.edgeCount() < 32; u++) {
+            for (int u = 0; u + gap < count && edges < 32; u++) {
                 x.addEdge(u, u + gap, gap);
+                edges++;
             }
         }
         return x;
@@ -83,26 +85,48 @@ final class Sample {
         return all.toString();
     }
 
-    /** What the object answers to a fixed tour of calls, which brings out the costs, edges, delays and room it has. */
+    /** Everything that it shows at once, and then with a new plan whose replay is visible to the end. */
+    static String shownTwice(HeftPlanner x) {
+        String first = shown(x);
+        return first + "\n  " + shown(ran(x, 100000));
+    }
+
+    /**
+     * What the object answers to a fixed tour of calls, which brings out the plan, clock, costs, edges, delays and
+     * room it has. The queries come last, so that one that changes something can not hide it by what the tour does.
+     */
     static String tour(HeftPlanner x) {
         StringBuilder all = new StringBuilder();
-        all.append("run ").append(x.run(100000)).append(' ').append(shown(x));
-        planAndRun(x, all);
-        for (int u = 0; u < x.taskCount(); u++) {
-            for (int v = 0; v < x.taskCount(); v++) {
+        runThrough(x, all);
+        planAndRunThrough(x, all);
+        for (int u = 0; u < 16; u++) {
+            for (int v = 0; v < 16; v++) {
                 all.append(' ').append(x.addEdge(u, v, 1));
             }
         }
-        planAndRun(x, all);
+        planAndRunThrough(x, all);
         for (int i = 0; i <= 16; i++) {
             all.append(' ').append(x.addTask(2, 2, 2, 2));
         }
-        planAndRun(x, all);
-        return all.toString();
+        planAndRunThrough(x, all);
+        return all.append("\n  ").append(shown(x)).toString();
     }
 
-    private static void planAndRun(HeftPlanner x, StringBuilder all) {
-        all.append("\n  plan ").append(x.plan()).append(' ').append(shown(x));
-        all.append("\n  run ").append(x.run(100000)).append(' ').append(shown(x)).append('\n');
+    private static void planAndRunThrough(HeftPlanner x, StringBuilder all) {
+        all.append("\n  plan ").append(x.plan());
+        runThrough(x, all);
+    }
+
+    // The answers tell the clock, by the times before it, and when each task finishes.
+    private static void runThrough(HeftPlanner x, StringBuilder all) {
+        int last = Integer.MIN_VALUE;
+        for (int time = 0; time <= 400; time++) {
+            int answer = x.run(time);
+            if (answer != last) {
+                all.append(" run(").append(time).append(")=").append(answer);
+                last = answer;
+            }
+        }
+        all.append(" run(100000)=").append(x.run(100000));
     }
 }

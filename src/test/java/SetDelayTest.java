@@ -165,7 +165,8 @@ public final class SetDelayTest {
             check.due("makespan()", late.makespan(), answer);
             for (int t = 0; t < 5; t++) {
                 for (int which = 0; which <= Query.PLANNED_FINISH; which++) {
-                    check.due(Query.NAMES[which] + "(" + t + ")", Query.ask(late, which, t), Query.ask(plain, which, t));
+                    int due = Query.ask(plain, which, t);
+                    check.due(Query.NAMES[which] + "(" + t + ")", Query.ask(late, which, t), due);
                 }
             }
         }
